@@ -176,10 +176,10 @@ public final class KnotTown {
 
     public int twist(int place, boolean overFirst, boolean plus) {
         Town town = now.town;
-        if (!town.hasPlace(place) || town.bridges() >= BRIDGES) {
+        int bridge = town.leastFree();
+        if (!town.hasPlace(place) || bridge >= BRIDGES) {
             return NONE;
         }
-        int bridge = town.leastFree();
         town.hand[bridge] = plus ? 1 : 0;
         town.insert(place, 2 * bridge + (overFirst ? 1 : 0));
         town.settle();
@@ -519,6 +519,10 @@ public final class KnotTown {
         /** The PLACE of each PASS, as told in pass. */
         final int[] at = new int[PLACES];
 
+        Town() {
+            Arrays.fill(at, NONE);
+        }
+
         void clear() {
             roads = 0;
             first = 0;
@@ -561,7 +565,7 @@ public final class KnotTown {
         }
 
         boolean has(int bridge) {
-            return bridge >= 0 && bridge < BRIDGES && (present >> bridge & 1) == 1;
+            return bridge >= 0 && bridge < BRIDGES && at[2 * bridge] >= 0 && at[2 * bridge + 1] >= 0;
         }
 
         int bridges() {
@@ -640,9 +644,9 @@ public final class KnotTown {
         }
 
         void flip(int bridge) {
-            int over = overAt(bridge);
-            int under = underAt(bridge);
-            if (hasPlace(over) && hasPlace(under)) {
+            if (has(bridge)) {
+                int over = overAt(bridge);
+                int under = underAt(bridge);
                 pass[over] = 2 * bridge;
                 pass[under] = 2 * bridge + 1;
                 at[2 * bridge] = over;
@@ -694,6 +698,9 @@ public final class KnotTown {
 
         /** The PASSES at the two ends of a PIECE change PLACES. */
         void swapAlong(int piece) {
+            if (!hasPlace(piece)) {
+                return;
+            }
             int ahead = next[piece];
             int held = pass[piece];
             pass[piece] = pass[ahead];
@@ -1247,7 +1254,7 @@ public final class KnotTown {
             for (int end = 0; end < ENDS; end++) {
                 other[end] = end ^ 1;
             }
-            cut(town, 0, 0, alone(town, 0) + alone(town, 1));
+            cut(this, town, 0, 0, alone(town, 0) + alone(town, 1));
             for (int as = 0; as <= town.bridges(); as++) {
                 for (int rings = 1; rings < RINGS; rings++) {
                     addUp(2 * as - town.bridges(), rings - 1, choices[as * RINGS + rings]);
@@ -1272,15 +1279,16 @@ public final class KnotTown {
             return road < town.roads && town.roadStart(road) == town.roadEnd(road) ? 1 : 0;
         }
 
-        private void cut(Town town, int bridge, int as, int rings) {
+        /** All choices for the BRIDGES from one on, behind those that are made. */
+        private static void cut(Bracket sum, Town town, int bridge, int as, int rings) {
             if (bridge >= BRIDGES) {
                 if (rings < RINGS) {
-                    choices[as * RINGS + rings]++;
+                    sum.choices[as * RINGS + rings]++;
                 }
                 return;
             }
             if (!town.has(bridge)) {
-                cut(town, bridge + 1, as, rings);
+                cut(sum, town, bridge + 1, as, rings);
                 return;
             }
             int plus = town.hand[bridge];
@@ -1288,14 +1296,14 @@ public final class KnotTown {
             int underGo = 2 * town.underAt(bridge);
             int overCome = 2 * town.prev[overGo >> 1] + 1;
             int underCome = 2 * town.prev[underGo >> 1] + 1;
-            int closed = tie(overCome, underGo) + tie(underCome, overGo);
-            cut(town, bridge + 1, as + plus, rings + closed);
-            untie(underCome, overGo);
-            untie(overCome, underGo);
-            closed = tie(overCome, underCome) + tie(overGo, underGo);
-            cut(town, bridge + 1, as + 1 - plus, rings + closed);
-            untie(overGo, underGo);
-            untie(overCome, underCome);
+            int closed = sum.tie(overCome, underGo) + sum.tie(underCome, overGo);
+            cut(sum, town, bridge + 1, as + plus, rings + closed);
+            sum.untie(underCome, overGo);
+            sum.untie(overCome, underGo);
+            closed = sum.tie(overCome, underCome) + sum.tie(overGo, underGo);
+            cut(sum, town, bridge + 1, as + 1 - plus, rings + closed);
+            sum.untie(overGo, underGo);
+            sum.untie(overCome, underCome);
         }
 
         /** 1 if a ring is closed by it. */
@@ -1834,6 +1842,9 @@ public final class KnotTown {
         private void meet(Town town, Rule rule, int place, int along) {
             int code = town.pass[place];
             int across = town.at[code ^ 1];
+            if (!town.hasPlace(across)) {
+                return;
+            }
             words[BRIDGE] = code >> 1;
             words[HAND] = town.hand[code >> 1];
             words[OVER] = code & 1;

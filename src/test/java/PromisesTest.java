@@ -145,6 +145,22 @@ public final class PromisesTest {
     feed(x, "ad");
     due("a word fed in two parts", x.town(), 0);
     due("roads", x.count(0), 1);
+    // What was cut off the tape is not read any more.
+    cut(x, "road o1+u10", 10, 1);
+    cut(x, "road;roads", 9, 0);
+    cut(x, "road;road ;", 10, 0);
+    feed(x, "bar 1<=1");
+    x.end(6);
+    due("a rule cut short", x.rule(), fault(6, 0));
+    feed(x, "bar 1=100000");
+    x.end(11);
+    due("a rule cut short", x.rule(), 0);
+  }
+
+  private static void cut(KnotTown x, String text, int n, int bridges) {
+    feed(x, text);
+    x.end(n);
+    due("town of '" + text + "', cut", x.town(), bridges);
   }
 
   // Promise 4: what is a town.
