@@ -1,66 +1,6 @@
 /** Each promise of the document by itself: ordinary inputs, the edges that it names, wrong inputs. */
-public final class PromisesTest {
-  private static final String TREFOIL = "road o0+u1o2+u0o1+u2";
-  private static final String EIGHT = "road o0+u1o3-u0o2+u3o1-u2";
-  private static final String WHITEHEAD = "road o0+u1o3-u4o1-u2;road u0o2+u3o4-";
-  private static final String HOPF = "road o0+u1;road u0o1+";
-  private static final String SEVEN = "road o0+u1o2+u3o4+u5o6+u0o1+u2o3+u4o5+u6";
-  private static final String ELEVEN = "road o0+u1o2+u3o4+u5o6+u7o8+u9o10+u0o1+u2o3+u4o5+u6o7+u8o9+u10";
-  private static final String LOOSE = "road o0+o1-;road u0u1";
-  private static final String SLIDING = "road o0+o1+o3-u0u2u3u1o2-";
+public final class PromisesTest extends Answers {
   private static final int[] WILD = {Integer.MIN_VALUE, -1000, -2, -1, 11, 12, 22, 23, 31, 32, 33, 64, 1000, Integer.MAX_VALUE};
-  private static int wrong = 0;
-
-  private static void due(String call, long got, long want) {
-    if (got != want) {
-      wrong++;
-      System.out.println(call + " answered " + got + ", due is " + want);
-    }
-  }
-
-  private static void due(String call, boolean got, boolean want) { due(call, got ? 1 : 0, want ? 1 : 0); }
-
-  private static void feed(KnotTown x, String text) {
-    int before = x.count(9);
-    StringBuilder padded = new StringBuilder(text);
-    while (padded.length() % 20 != 0) padded.append('?');
-    for (int at = 0; at < padded.length(); at += 20) {
-      int[] n = new int[5];
-      for (int i = 0; i < 20; i++) n[i / 4] = n[i / 4] << 8 | padded.charAt(at + i) & 255;
-      due("feed of '" + text + "'", x.feed(n[0], n[1], n[2], n[3], n[4]), before + at + 20);
-    }
-    due("end of '" + text + "'", x.end(before + text.length()), before + text.length());
-  }
-
-  private static KnotTown townOf(String text) {
-    KnotTown x = new KnotTown();
-    feed(x, text);
-    due("town of '" + text + "' is none", x.town() >= 0, true);
-    return x;
-  }
-
-  private static int fault(int place, int kind) { return -2 - (1 + 8 * place + kind); }
-
-  private static void townFault(String text, int place, int kind) {
-    KnotTown x = townOf(HOPF);
-    feed(x, text);
-    due("town of '" + text + "'", x.town(), fault(place, kind));
-    due("tape behind '" + text + "'", x.count(9), 0);
-    due("bridges behind '" + text + "'", x.count(1), 2);
-    due("roads behind '" + text + "'", x.count(0), 2);
-  }
-
-  private static int ruleOf(KnotTown x, String text) {
-    feed(x, text);
-    return x.rule();
-  }
-
-  private static void ruleFault(String text, int place, int kind) {
-    KnotTown x = new KnotTown();
-    due("rule '" + text + "'", ruleOf(x, text), fault(place, kind));
-    due("rules behind '" + text + "'", x.count(6), 0);
-    due("tape behind '" + text + "'", x.count(9), 0);
-  }
 
   public static void main(String[] args) {
     newObject();
@@ -85,11 +25,12 @@ public final class PromisesTest {
     drawsAndFloods();
     counts();
     images();
-    wildArguments(new KnotTown());
-    wildArguments(townOf(ELEVEN));
-    wildArguments(townOf("road;road"));
-    System.out.println(wrong == 0 ? "all promises hold" : wrong + " answers are not as due");
-    if (wrong != 0) System.exit(1);
+    for (int a : WILD) {
+      wildArguments(new KnotTown(), a);
+      wildArguments(townOf(ELEVEN), a);
+      wildArguments(townOf("road;road"), a);
+    }
+    finish("all promises hold");
   }
 
   // Promise 1, and what each promise says without a town.
@@ -802,37 +743,35 @@ public final class PromisesTest {
   }
 
   /** No call throws, whatever it is given; what can't be changes nothing. */
-  private static void wildArguments(KnotTown x) {
+  private static void wildArguments(KnotTown x, int a) {
     int bridges = x.count(1);
-    for (int a : WILD) {
-      for (int b : WILD) {
-        x.place(a, b);
-        due("bridge", x.bridge(a, b), -1);
-        due("polynomial", x.polynomial(a, b), 0);
-        x.row(a, b);
-        x.gossip(a, b);
-        x.heard(a, b);
-        due("apart", x.apart(a, b), false);
-        due("slide", x.slide(a, b, 0), false);
-        due("slide", x.slide(0, a, b), false);
-        x.floods(a, b, 0, 1);
-        x.floods(5, 5, a, b);
-      }
-      due("land", x.land(a), -1);
-      due("can", x.can(a), -1);
-      due("off", x.off(a), false);
-      due("change", x.change(a), -1);
-      due("changes", x.changes(a), -1);
-      due("backToFront", x.backToFront(a), -1);
-      due("image", x.image(a), -1);
-      due("back", x.back(a), -1);
-      x.twist(a, true, true);
-      x.colours(a);
-      x.count(a);
-      x.end(a);
-      x.seed(a);
-      x.force(a);
+    for (int b : WILD) {
+      x.place(a, b);
+      due("bridge", x.bridge(a, b), -1);
+      due("polynomial", x.polynomial(a, b), 0);
+      x.row(a, b);
+      x.gossip(a, b);
+      x.heard(a, b);
+      due("apart", x.apart(a, b), false);
+      due("slide", x.slide(a, b, 0), false);
+      due("slide", x.slide(0, a, b), false);
+      x.floods(a, b, 0, 1);
+      x.floods(5, 5, a, b);
     }
+    due("land", x.land(a), -1);
+    due("can", x.can(a), -1);
+    due("off", x.off(a), false);
+    due("change", x.change(a), -1);
+    due("changes", x.changes(a), -1);
+    due("backToFront", x.backToFront(a), -1);
+    due("image", x.image(a), -1);
+    due("back", x.back(a), -1);
+    x.twist(a, true, true);
+    x.colours(a);
+    x.count(a);
+    x.end(a);
+    x.seed(a);
+    x.force(a);
     due("bridges", x.count(1), bridges);
   }
 }
