@@ -107,4 +107,41 @@ abstract class Answers {
     due("places " + when, x.count(2), wanted.length / 2);
     for (int i = 0; i < wanted.length; i++) due("place(" + i / 2 + ", " + i % 2 + ") " + when, x.place(i / 2, i % 2), wanted[i]);
   }
+
+  /** The town as it is now, as a text. */
+  static String told(KnotTown x) {
+    StringBuilder text = new StringBuilder("road");
+    int road = 0;
+    int places = x.count(2);
+    for (int p = 0; p < places; p++) {
+      for (; road < x.place(p, 2); road++) text.append(";road");
+      int b = x.place(p, 0);
+      text.append(x.place(p, 1) == 0 ? " u" + b : " o" + b + (x.bridge(b, 0) == 1 ? "+" : "-"));
+    }
+    for (; road < x.count(0) - 1; road++) text.append(";road");
+    return text.toString();
+  }
+
+  /** What follows from the town alone. */
+  static String follows(KnotTown x) {
+    StringBuilder s = new StringBuilder();
+    for (int b = 0; b < 11; b++) s.append(x.bridge(b, 1)).append(',').append(x.bridge(b, 2)).append(' ');
+    for (int what : new int[] {0, 1, 2, 3, 5, 10}) s.append(x.count(what)).append(' ');
+    for (int what = 0; what < 4; what++) s.append(x.land(what)).append(' ');
+    for (int kind = 1; kind < 4; kind++) s.append(x.can(kind)).append(' ');
+    s.append(x.writhe()).append(' ').append(x.linked()).append(' ').append(x.determinant()).append(' ').append(x.colours(3)).append(' ').append(x.colours(5));
+    s.append(" shaken ").append(x.shaken()).append(" row");
+    for (int k = 0; k < 8; k++) s.append(' ').append(x.row(k / 4, k % 4));
+    s.append(" changes ").append(x.changes(0)).append(' ').append(x.changes(1)).append(" numbers");
+    for (int power = -24; power <= 24; power++) s.append(' ').append(x.polynomial(0, power)).append(',').append(x.polynomial(1, power));
+    return s.toString();
+  }
+
+  /** All that follows from the town is as of one that was told anew. */
+  static void asToldAnew(String behind, KnotTown x) {
+    String text = told(x);
+    String now = follows(x);
+    String anew = follows(townOf(text));
+    due(behind + ": '" + text + "' has " + now + ", told anew " + anew, now.equals(anew), true);
+  }
 }

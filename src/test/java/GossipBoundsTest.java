@@ -113,7 +113,12 @@ public final class GossipBoundsTest extends Answers {
     KnotTown x = ruled("road o0+u0o1+u1o2+u2o3+u3", "bar through=1");
     int[] first = {0, 1, 2, 3, 4, 3, 2, 1};
     for (int p = 0; p < 8; p++) due("heard(0, " + p + ")", x.heard(0, p), first[p]);
-    for (int p = 0; p < 8; p++) due("heard(" + p + ", " + p + ")", x.heard(p, p), 0);
+    for (int a = 0; a < 8; a++) {
+      for (int b = 0; b < 8; b++) {
+        int way = Math.abs(a - b);
+        due("heard(" + a + ", " + b + ")", x.heard(a, b), Math.min(way, 8 - way));
+      }
+    }
     due("itself, all barred", ruled(KINK, "bar 1=1").heard(1, 1), 0);
     due("heard(0, 1) in the first minute", townOf(KINK).heard(0, 1), 1);
   }

@@ -2,6 +2,11 @@
 public final class MarkBoundsTest extends Answers {
   // 1,188 situations would come of this one.
   private static final String TANGLED = "road u5u0u1o3-o0-u2u3u4o4-o1-o2-o5-";
+  // The knots 8_18, 10_123, 8_19 and 10_124, whose marks are known.
+  private static final String EIGHT_18 = "road o0+u1o3-u4o6+u7o1-u2o4+u5o7-u0o2+u3o5-u6";
+  private static final String TEN_123 = "road o0+u1o3-u4o6+u7o9-u0o2+u3o5-u6o8+u9o1-u2o4+u5o7-u8";
+  private static final String EIGHT_19 = "road o0+o1+u3u4o6+o7+u1u2o4+o5+u7u0o2+o3+u5u6";
+  private static final String TEN_124 = "road o0+o1+u3u4o6+o7+u9u0o2+o3+u5u6o8+o9+u1u2o4+o5+u7u8";
   private static final String SLIDES_OUT = "road u0u2o3-o0+o1+u4;road o4+u1o2-u3";
 
   public static void main(String[] args) {
@@ -105,6 +110,11 @@ public final class MarkBoundsTest extends Answers {
     for (int i = 0; i < texts.length; i++) {
       for (int k = 0; k < 5; k++) due("colours(" + primes[k] + ") of '" + texts[i] + "'", townOf(texts[i]).colours(primes[k]), ways[i][k]);
     }
+    due("colours(3) of 8_18", townOf(EIGHT_18).colours(3), 27);
+    due("colours(5) of 8_18", townOf(EIGHT_18).colours(5), 25);
+    due("colours(11) of 10_123", townOf(TEN_123).colours(11), 1331);
+    due("colours(3) of 8_19", townOf(EIGHT_19).colours(3), 9);
+    due("colours(13) of 10_124", townOf(TEN_124).colours(13), 13);
     for (int p : primes) due("colours(" + p + ") without a town", new KnotTown().colours(p), -1);
   }
 
@@ -120,8 +130,8 @@ public final class MarkBoundsTest extends Answers {
     says("DETERMINANT; NONE without a TOWN.");
     due("determinant() without a town", new KnotTown().determinant(), -1);
     String[] texts = {TREFOIL, EIGHT, WHITEHEAD, HOPF, SEVEN, ELEVEN, "road o0-u0", "road o0+u1o2+u0o1+u2o3+u4o5+u3o4+u5",
-        "road u2o3-u5o0-u3o4+u1o2+u4o5-u0o1+"};
-    long[] wanted = {3, 5, 8, 2, 7, 11, 1, 9, 13};
+        "road u2o3-u5o0-u3o4+u1o2+u4o5-u0o1+", EIGHT_18, TEN_123, EIGHT_19, TEN_124};
+    long[] wanted = {3, 5, 8, 2, 7, 11, 1, 9, 13, 45, 121, 3, 1};
     for (int i = 0; i < texts.length; i++) {
       KnotTown x = townOf(texts[i]);
       due("determinant() of '" + texts[i] + "'", x.determinant(), wanted[i]);
@@ -142,6 +152,10 @@ public final class MarkBoundsTest extends Answers {
     due("three bows, two bridges", townOf(LOOSE).determinant(), 0);
     due("four bows, three bridges", townOf(TREFOIL + ";road").determinant(), 0);
     due("four bows, three bridges", townOf("road;" + TREFOIL).determinant(), 0);
+    due("as many bows as bridges, of two groups", townOf(TWO_GROUPS).determinant(), 0);
+    due("as many bows as bridges, of two groups", townOf("road o0+u0;road o1+u1o2+u2").determinant(), 0);
+    due("as many bows as bridges, of two groups", townOf("road o1+u1o2+u2;road o0+u0").determinant(), 0);
+    due("as many bows as bridges, of two groups", townOf(TREFOIL + ";road u3o3-u4o4+").determinant(), 0);
     due("twelve bows, eleven bridges", townOf(ELEVEN + ";road").determinant(), 0);
   }
 
@@ -213,6 +227,10 @@ public final class MarkBoundsTest extends Answers {
     polynomial(1, TREFOIL, -4, 1, -12, 1, -16, -1);
     polynomial(1, "road u0o1-u2o0-u1o2-", 4, 1, 12, 1, 16, -1);
     polynomial(1, EIGHT, -8, 1, -4, -1, 0, 1, 4, -1, 8, 1);
+    polynomial(1, EIGHT_18, -16, 1, -12, -4, -8, 6, -4, -7, 0, 9, 4, -7, 8, 6, 12, -4, 16, 1);
+    polynomial(1, TEN_123, -20, -1, -16, 5, -12, -10, -8, 15, -4, -19, 0, 21, 4, -19, 8, 15, 12, -10, 16, 5, 20, -1);
+    polynomial(1, EIGHT_19, -12, 1, -20, 1, -32, -1);
+    polynomial(1, TEN_124, -16, 1, -24, 1, -40, -1);
     polynomial(1, ELEVEN, -64, -1, -60, 1, -56, -1, -52, 1, -48, -1, -44, 1, -40, -1, -36, 1, -32, -1, -28, 1, -20, 1);
   }
 
@@ -272,6 +290,7 @@ public final class MarkBoundsTest extends Answers {
     String[] more = {"road o6+u6u2u4o3-o7-u7u5o5+u3o4+o0+u1o2+u8o8-u0o1+", "road o6-u7u0u1u3o4+u2o3-u5u6o7-o5+;road o2+u4o0-o1+"};
     for (String text : more) due("shaken() of '" + text + "', 301 in all", townOf(text).shaken(), -3);
     String[] just = {"road o6-u4u2u1o3-u3u0o2-o4+u6;road u8o5+u5o0-u7o7-o1+o8-", "road u1u8o8+o1+o5-u5;road u3o3-u2o7+u7o6-u6o2+u4o4-o0-u0"};
+    due("shaken() of eleven bridges", townOf("road u7u0o1-o9-u9u2u3o4+u8o8+u5u6;road o2-o3+u4o5+o6-o7+u10o10+o0-u1").shaken(), 7);
     for (String text : just) due("shaken() of '" + text + "', 300 ahead of it", townOf(text).shaken(), 7);
     String[] late = {"road u2u3o8+u8u4u5u0o6+u6u1;road o2-o3+o4-o7+u7o5+o0-o1+", "road u4u7o7-u3o0+o2-o3-u8o8+o1+u2u0u5u6o6-o5-u1o4-"};
     for (String text : late) due("shaken() of '" + text + "', 301 ahead of it", townOf(text).shaken(), -3);
@@ -307,6 +326,10 @@ public final class MarkBoundsTest extends Answers {
     for (int i = wanted.length - 1; i >= 0; i--) due("row(" + i / 4 + ", " + i % 4 + "), asked from behind", x.row(i / 4, i % 4), wanted[i]);
     due("changes(0) between", x.changes(0), 0);
     for (int i = 0; i < wanted.length; i++) due("row(" + i / 4 + ", " + i % 4 + ") behind changes", x.row(i / 4, i % 4), wanted[i]);
+    KnotTown y = townOf(SLIDES_OUT);
+    for (int what = 0; what < 2; what++) due("changes(" + what + ") ahead", y.changes(what), 0);
+    due("shaken() behind changes", y.shaken(), 4);
+    for (int i = 0; i < wanted.length; i++) due("row(" + i / 4 + ", " + i % 4 + ") behind changes", y.row(i / 4, i % 4), wanted[i]);
     due("the first move", x.slide(0, 1, 2), true);
     due("shaken() is one less", x.shaken(), 3);
     for (int i = 0; i < 12; i++) due("row(" + i / 4 + ", " + i % 4 + ") behind it", x.row(i / 4, i % 4), wanted[i + 4]);

@@ -35,6 +35,8 @@ public final class MoveBoundsTest extends Answers {
     backToFrontRefused();
     movesThatCouldBe();
     setsOfBridges();
+    movesAsOfNow();
+    behindEachChange();
     finish("the bounds of moves hold");
   }
 
@@ -514,5 +516,62 @@ public final class MoveBoundsTest extends Answers {
     due("two sets", townOf(CHANGED).can(2), 2);
     due("four sets", townOf(SLIDING).can(3), 4);
     due("two sets", townOf(SLIDING).can(2), 2);
+  }
+
+  private static void movesAsOfNow() {
+    says("MOVES that could be now");
+    KnotTown x = townOf(TREFOIL);
+    due("can(2)", x.can(2), 0);
+    x.change(0);
+    due("can(2) behind a change", x.can(2), 2);
+    due("can(3) behind a change", x.can(3), 1);
+    x.twist(0, true, true);
+    due("can(1) behind a twist", x.can(1), 1);
+    x.image(0);
+    x.off(3);
+    due("can(1) behind off", x.can(1), 0);
+    x.back(0);
+    due("can(1) behind back", x.can(1), 1);
+    due("land(0) behind back", x.land(0), 6);
+  }
+
+  /** What was asked ahead of a change does not stand behind it. */
+  private static void behindEachChange() {
+    says("BY HAND a BRIDGE is changed");
+    for (int kind = 0; kind < 8; kind++) {
+      KnotTown x = townOf("road u0u1o2+o0-o1+u2o3-u3;road");
+      x.image(0);
+      if (kind == 7) x.change(3);
+      x.shaken();
+      x.row(0, 1);
+      x.changes(0);
+      x.polynomial(0, 0);
+      x.can(1);
+      boolean done = switch (kind) {
+        case 0 -> x.change(1) == 0;
+        case 1 -> x.twist(2, false, true) == 4;
+        case 2 -> x.mirror() == 4;
+        case 3 -> x.backToFront(0) == 8;
+        case 4 -> x.off(3);
+        case 5 -> x.apart(0, 1);
+        case 6 -> x.slide(0, 1, 2);
+        default -> x.back(0) == 0;
+      };
+      due("change " + kind, done, true);
+      asToldAnew("change " + kind, x);
+    }
+    KnotTown z = townOf(TREFOIL);
+    due("polynomial(1, -16)", z.polynomial(1, -16), -1);
+    z.mirror();
+    due("polynomial(1, -16) behind mirror()", z.polynomial(1, -16), 0);
+    asToldAnew("mirror()", z);
+    for (int road = 0; road < 2; road++) {
+      KnotTown y = townOf("road o0+u1o2+u3;road u0o1+u2o3+o4+u4");
+      y.shaken();
+      y.changes(0);
+      y.polynomial(0, 0);
+      y.backToFront(road);
+      asToldAnew("backToFront(" + road + ")", y);
+    }
   }
 }

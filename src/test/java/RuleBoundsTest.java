@@ -184,6 +184,13 @@ public final class RuleBoundsTest extends Answers {
         "through=1 and over=1", "through=0 and over=1"};
     int[] has = {63, 45, 27, 63, 1, 63, 63, 1, 63, 55, 63, 31, 35, 29, 63, 27, 45, 63, 1, 63, 63, 1, 63, 63, 63, 55, 59, 31};
     for (int i = 0; i < bars.length; i++) due("gossip(0, 1), bar " + bars[i], ruled(TREFOIL, "bar " + bars[i]).gossip(0, 1), has[i]);
+    for (int p = 0; p < 6; p++) {
+      due("gossip(" + p + ", 1), bar from=" + p, ruled(TREFOIL, "bar from=" + p).gossip(p, 1), 1 << p);
+      due("gossip(" + p + ", 1), bar from<" + p, ruled(TREFOIL, "bar from<" + p).gossip(p, 1), 63);
+      due("gossip(" + p + ", 60), bar to<" + p, ruled(TREFOIL, "bar to<" + p).gossip(p, 60), 64 - (1 << p));
+    }
+    due("from in a later minute", ruled(TREFOIL, "bar through=1 or from=1").gossip(0, 60), 63);
+    due("from in a later minute", ruled(TREFOIL, "bar through=1 or from=1 or from=4").gossip(0, 60), 0b110011);
     KnotTown x = ruled("road o0+u0o1-u1", "bar hand=0");
     due("gossip(0, 60), bar hand=0", x.gossip(0, 60), 1 | 2 | 8);
     KnotTown y = ruled(TREFOIL, "bar minute>1");

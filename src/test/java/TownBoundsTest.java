@@ -485,6 +485,10 @@ public final class TownBoundsTest extends Answers {
     due("polynomial(0, 3)", x.polynomial(0, 3), 0);
     due("gossip by the rule in force", x.gossip(0, 5), 1);
     due("changes(0)", x.changes(0), 1);
+    feed(x, "road o0-u0;road");
+    due("town()", x.town(), 1);
+    due("a hand told anew", x.bridge(0, 0), 0);
+    asToldAnew("a town in place of another", x);
     feed(x, "road");
     due("town()", x.town(), 0);
     due("places", x.count(2), 0);
@@ -506,6 +510,9 @@ public final class TownBoundsTest extends Answers {
       due("tape", x.count(9), 0);
     }
     stays("towns with faults", x, before);
+    feed(x, "road o0-u0");
+    due("town() behind faults", x.town(), 1);
+    due("its hand", x.bridge(0, 0), 0);
     KnotTown y = new KnotTown();
     feed(y, "road o0+");
     due("town of none before", y.town(), fault(8, 6));
