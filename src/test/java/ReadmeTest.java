@@ -27,6 +27,8 @@ public final class ReadmeTest extends Answers {
       if (java.lang.reflect.Modifier.isPublic(each.getModifiers()) && !page.contains("`" + each.getName() + "(")) missing.add(each.getName());
     }
     due("calls that the page does not name: " + missing, missing.size(), 0);
+    int at = page.indexOf("`bar through=1 and");
+    due("the rule on the page", at < 0 ? -1 : ruleAnswer(page.substring(at + 1, page.indexOf((char) 96, at + 1))), 0);
     finish("the page says what is so");
   }
 
